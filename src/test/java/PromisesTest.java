@@ -248,6 +248,27 @@ public final class PromisesTest {
         due("2x = 2 is not", book.redundant(0, 1), 0);
         due("the other system stays", book.nth(1, 0), 3);
         due("the other system stays so long", book.size(1), 1);
+        dropFromTheFull();
+    }
+
+    private static void dropFromTheFull() {
+        for (int s = 0; s < 2; s++) {
+            for (int i = 0; i < 10; i++) {
+                CongruenceBook book = new CongruenceBook(4, 2);
+                line(book, 0, 0, 0, 1);
+                for (int k = 0; k < 10; k++) {
+                    book.add(s, k == i ? 1 : 2);
+                    book.add(1 - s, 3);
+                }
+                due("full: solutions(" + s + ") at first", book.solutions(s), 0);
+                due("full: drop(" + s + ", " + i + ")", book.drop(s, i), 9);
+                due("full: solutions(" + s + ")", book.solutions(s), 64);
+                due("full: the least", book.nth(s, 0), 128);
+                due("full: the other's size", book.size(1 - s), 10);
+                due("full: the other's least", book.nth(1 - s, 0), 192);
+                due("full: the other's last is still there", book.drop(1 - s, 9), 9);
+            }
+        }
     }
 
     private static void promise08Copy() {
@@ -401,6 +422,14 @@ public final class PromisesTest {
         for (int s : NOT_A_SYSTEM) {
             due("entails(" + s + ", 0)", book.entails(s, 0), -1);
         }
+        CongruenceBook zero = new CongruenceBook(1, 3);
+        put(zero, 0, 0, 1);
+        due("0 alone: x is 0", zero.entails(0, 0), 1);
+        due("0 alone: x is not 1", zero.entails(0, 1), 0);
+        CongruenceBook last = new CongruenceBook(1, 3);
+        put(last, 0, 7, 1);
+        due("7 alone: x is 7", last.entails(0, 7), 1);
+        due("7 alone: x is not 0", last.entails(0, 0), 0);
         CongruenceBook none = contradictory(2, 3);
         for (int c = -1; c <= 8; c++) {
             due("no solution: entails(0, " + c + ")", none.entails(0, c), 1);
@@ -491,6 +520,13 @@ public final class PromisesTest {
         for (int s : NOT_A_SYSTEM) {
             due("within(" + s + ")", book.within(s), -1);
         }
+        for (int only = 0; only < 8; only++) {
+            CongruenceBook one = new CongruenceBook(1, 3);
+            put(one, 0, only, 1);
+            put(one, 1, only + 1, 1);
+            due("only " + only + " is not in the other", one.within(0), 0);
+            due("only " + only + " is not in the other, from there", one.within(1), 0);
+        }
         CongruenceBook none = contradictory(2, 3);
         due("none in all", none.within(0), 1);
         due("all in none", none.within(1), 0);
@@ -578,6 +614,9 @@ public final class PromisesTest {
         due("no solution, no unknown", none.settledBits(0, 2), -2);
         due("no solution, no system", none.settledBits(2, 0), -1);
         due("beside no solution", none.settledBits(1, 0), 0);
+        CongruenceBook sum = new CongruenceBook(3, 3);
+        put(sum, 1, 0, 1, 7, 7);
+        due("x = y + z, first and last are both even", sum.settledBits(1, 0), 0);
         CongruenceBook small = new CongruenceBook(1, 1);
         due("modulo 2, both values", small.settledBits(0, 0), 0);
         put(small, 0, 1, 1);
@@ -620,5 +659,12 @@ public final class PromisesTest {
         put(book, 0, 2, 1, 0);
         due("0 = 1 beside x = 1 and x = 2", book.redundant(0, 0), 1);
         due("x = 1 beside 0 = 1 and x = 2", book.redundant(0, 1), 1);
+        for (int only = 0; only < 8; only++) {
+            CongruenceBook one = new CongruenceBook(1, 3);
+            put(one, 1, only, 1);
+            put(one, 1, only + 4, 1);
+            due("without the second only " + only + " is left", one.redundant(1, 1), 0);
+            due("without the first only the other of " + only + " is left", one.redundant(1, 0), 0);
+        }
     }
 }
