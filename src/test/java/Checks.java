@@ -2,12 +2,26 @@
 final class Checks {
     private int made = 0;
     private int wrong = 0;
+    private String sentence = "";
+
+    /** Runs the test of one sentence of the document; what is wrong in it is printed with its words. */
+    void sentence(String words, Runnable test) {
+        int before = made;
+        sentence = "\"" + words + "\": ";
+        try {
+            test.run();
+        } catch (RuntimeException thrown) {
+            holds("no call throws, but " + thrown, false);
+        }
+        holds("the sentence has a check", made > before);
+        sentence = "";
+    }
 
     void due(String call, long got, long want) {
         made++;
         if (got != want) {
             wrong++;
-            System.out.println(call + " answered " + got + ", due is " + want);
+            System.out.println(sentence + call + " answered " + got + ", due is " + want);
         }
     }
 
@@ -15,7 +29,7 @@ final class Checks {
         made++;
         if (!holds) {
             wrong++;
-            System.out.println("does not hold: " + what);
+            System.out.println(sentence + "does not hold: " + what);
         }
     }
 

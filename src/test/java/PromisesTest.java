@@ -1,10 +1,5 @@
 /** For each promise: ordinary inputs, the edges that the document names, and wrong inputs. */
-public final class PromisesTest {
-    private static final Checks CHECKS = new Checks();
-    private static final int[] NOT_A_SYSTEM = {
-        -1, 2, 3, 10, -2, 256, -256, Integer.MAX_VALUE, Integer.MIN_VALUE
-    };
-
+public final class PromisesTest extends Books {
     public static void main(String[] args) {
         promise01NewObject();
         promise02Unknowns();
@@ -28,28 +23,6 @@ public final class PromisesTest {
         promise20SettledBits();
         promise21Redundant();
         CHECKS.end();
-    }
-
-    private static void due(String call, long got, long want) {
-        CHECKS.due(call, got, want);
-    }
-
-    /** Puts coefficients[0]*x(0) + coefficients[1]*x(1) + .. = rhs at the end of system s. */
-    private static int put(CongruenceBook book, int s, int rhs, int... coefficients) {
-        line(book, coefficients);
-        return book.add(s, rhs);
-    }
-
-    private static void line(CongruenceBook book, int... coefficients) {
-        for (int v = 0; v < book.unknowns(); v++) {
-            book.draft(v, v < coefficients.length ? coefficients[v] : 0);
-        }
-    }
-
-    private static CongruenceBook contradictory(int vars, int bits) {
-        CongruenceBook book = new CongruenceBook(vars, bits);
-        book.add(0, 1);
-        return book;
     }
 
     private static void clamps(int vars, int bits, int n, int m) {
